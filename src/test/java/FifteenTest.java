@@ -118,7 +118,7 @@ public final class FifteenTest {
         return code;
     }
 
-    private static boolean wins(int[] owners, int player) {
+    static boolean wins(int[] owners, int player) {
         for (int a = 1; a <= 9; a++) {
             for (int b = a + 1; b <= 9; b++) {
                 int c = 15 - a - b;
@@ -130,7 +130,7 @@ public final class FifteenTest {
         return false;
     }
 
-    private static int outcome(int[] owners, int taken) {
+    static int outcome(int[] owners, int taken) {
         if (wins(owners, 1) || wins(owners, 2) || taken == 9) {
             return wins(owners, 1) ? 1 : wins(owners, 2) ? -1 : 0;
         }

@@ -167,7 +167,7 @@ public final class FillingsTest {
         Check.index("promise 31: behind the last one of " + name, () -> x.fill(end));
     }
 
-    private static void collect(int[] cells, int at, int used, List<int[]> all) {
+    static void collect(int[] cells, int at, int used, List<int[]> all) {
         if (at == 16) {
             all.add(cells.clone());
             return;

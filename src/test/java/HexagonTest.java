@@ -3,7 +3,7 @@ import java.util.List;
 
 /** Promises 33 to 37: the hexagon, and that it has just the fillings that a search finds. */
 public final class HexagonTest {
-    private static final int[][] LINES = {
+    static final int[][] LINES = {
         {0, 1, 2}, {3, 4, 5, 6}, {7, 8, 9, 10, 11}, {12, 13, 14, 15}, {16, 17, 18},
         {7, 12, 16}, {3, 8, 13, 17}, {0, 4, 9, 14, 18}, {1, 5, 10, 15}, {2, 6, 11},
         {0, 3, 7}, {1, 4, 8, 12}, {2, 5, 9, 13, 16}, {6, 10, 14, 17}, {11, 15, 18}
@@ -67,7 +67,7 @@ public final class HexagonTest {
         Check.due("promise 35: an empty hexagon", 0, () -> new SquareWorkshop().hexSum(7));
     }
 
-    private static void search(int[] cells, int from, List<int[]> all) {
+    static void search(int[] cells, int from, List<int[]> all) {
         int cell = from;
         while (cell < 19 && cells[cell] != 0) {
             cell++;

@@ -21,7 +21,7 @@ public final class RoomsTest {
     }
 
     /** A rule is a row of factors of the cells, whose sum must be 0. */
-    private static BigInteger[][] rules(int n, int what) {
+    static BigInteger[][] rules(int n, int what) {
         long[][] sums = what == SquareWorkshop.LIKE ? pairs(n) : lines(n, what);
         BigInteger[][] rules = new BigInteger[sums.length][n * n];
         for (int rule = 0; rule < sums.length; rule++) {
@@ -59,7 +59,7 @@ public final class RoomsTest {
         return sums;
     }
 
-    private static int rank(BigInteger[][] rows) {
+    static int rank(BigInteger[][] rows) {
         int rank = 0;
         for (int column = 0; column < rows[0].length; column++) {
             int pivot = rank;
