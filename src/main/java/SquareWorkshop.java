@@ -402,6 +402,11 @@ public final class SquareWorkshop {
         drawers.load(drawer, opened);
     }
 
+    /** What is left, 0 or more, behind a division. */
+    private static int rest(int number, int divisor) {
+        return divisor < 1 ? 0 : Math.floorMod(number, divisor);
+    }
+
     private static boolean isSize(int size) {
         return size >= 1 && size <= LARGEST_SIZE;
     }
@@ -972,7 +977,9 @@ public final class SquareWorkshop {
 
     /** Tells what properties a square has. */
     private static final class Measures {
-        // The cell of each number of a NORMAL square; the cube counts its numbers here, too.
+        private static final int ROW_UNIT = 16;
+
+        // Row and column of each number of a NORMAL square; the cube counts its numbers here, too.
         final int[] places = new int[MOST_CELLS + 1];
         private final Product first = new Product();
         private final Product next = new Product();
@@ -1020,13 +1027,13 @@ public final class SquareWorkshop {
             if (!isNormal(square)) {
                 return NONE;
             }
-            int n = square.n;
+            int cells = square.cellCount();
             int others = 0;
-            for (int number = 1; number < n * n; number++) {
+            for (int number = 1; number < cells; number++) {
                 int here = places[number];
                 int there = places[number + 1];
-                int rows = Math.abs(here / n - there / n);
-                int columns = Math.abs(here % n - there % n);
+                int rows = Math.abs(here / ROW_UNIT - there / ROW_UNIT);
+                int columns = Math.abs(here % ROW_UNIT - there % ROW_UNIT);
                 // Of two steps only 1 and 2 have the product 2.
                 if (rows * columns != 2) {
                     others++;
@@ -1040,12 +1047,14 @@ public final class SquareWorkshop {
             for (int number = 1; number <= cells; number++) {
                 places[number] = NONE;
             }
-            for (int cell = 0; cell < cells; cell++) {
-                int number = square.cells[cell];
-                if (number < 1 || number > cells || places[number] != NONE) {
-                    return false;
+            for (int row = 0; row < square.n; row++) {
+                for (int column = 0; column < square.n; column++) {
+                    int number = square.number(row, column);
+                    if (number < 1 || number > cells || places[number] != NONE) {
+                        return false;
+                    }
+                    places[number] = ROW_UNIT * row + column;
                 }
-                places[number] = cell;
             }
             return true;
         }
@@ -1222,8 +1231,8 @@ public final class SquareWorkshop {
             target.blank(n);
             for (int row = 0; row < n; row++) {
                 for (int column = 0; column < n; column++) {
-                    int high = Math.floorMod(row + 2 * column, n);
-                    int low = Math.floorMod(2 * row + column, n);
+                    int high = rest(row + 2 * column, n);
+                    int low = rest(2 * row + column, n);
                     target.put(row, column, n * high + low + 1);
                 }
             }
@@ -1234,6 +1243,8 @@ public final class SquareWorkshop {
     private static final class Filler {
         private static final int MOST = 16;
         private static final int LEAST_GIVEN_OF_FOUR = 4;
+        // An index behind all: the size 4 has 7040 squares in all.
+        private static final int MORE_THAN_ALL = 1000000;
         private static final int GROUPS = 14;
         private static final int GROUPS_OF_A_CELL = 4;
 
@@ -1272,7 +1283,7 @@ public final class SquareWorkshop {
         }
 
         int countAll() {
-            run(Integer.MAX_VALUE);
+            run(MORE_THAN_ALL);
             return found;
         }
 
@@ -1393,7 +1404,8 @@ public final class SquareWorkshop {
             if (left < 1 || left > cellCount || (used >> left & 1) == 1) {
                 return false;
             }
-            put(Integer.numberOfTrailingZeros(open), left);
+            // The one bit that is set has as many bits below it as its cell has cells ahead of it.
+            put(Integer.bitCount(open - 1), left);
             return true;
         }
 
@@ -1409,7 +1421,10 @@ public final class SquareWorkshop {
 
         /** Fills the first empty cell with each number: so the fillings come in their order. */
         private static boolean search(Filler filler, int depth) {
-            if (filler.trailLength == filler.cellCount || depth > MOST) {
+            if (depth > MOST) {
+                return false;
+            }
+            if (filler.trailLength == filler.cellCount) {
                 filler.found++;
                 return filler.found > filler.wanted;
             }
@@ -1549,9 +1564,9 @@ public final class SquareWorkshop {
             int i = layer + 1;
             int j = row + 1;
             int k = column + 1;
-            int high = Math.floorMod(i - j + k - 1, n);
-            int middle = Math.floorMod(i - j - k, n);
-            int low = Math.floorMod(i + j + k - 2, n);
+            int high = rest(i - j + k - 1, n);
+            int middle = rest(i - j - k, n);
+            int low = rest(i + j + k - 2, n);
             return n * n * high + n * middle + low + 1;
         }
 
@@ -1586,10 +1601,14 @@ public final class SquareWorkshop {
             for (int number = 1; number <= cells && number < counts.length; number++) {
                 counts[number] = 0;
             }
-            for (int cell = 0; cell < cells; cell++) {
-                int number = number(n, cell / (n * n), cell / n % n, cell % n);
-                if (number > 0 && number < counts.length) {
-                    counts[number]++;
+            for (int layer = 0; layer < n; layer++) {
+                for (int row = 0; row < n; row++) {
+                    for (int column = 0; column < n; column++) {
+                        int number = number(n, layer, row, column);
+                        if (number > 0 && number < counts.length) {
+                            counts[number]++;
+                        }
+                    }
                 }
             }
             int missing = 0;
