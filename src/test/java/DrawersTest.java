@@ -75,6 +75,10 @@ public final class DrawersTest {
         Check.due("promise 27: a change", 5, x::undo);
         x.take(0);
         Check.due("promise 27: the drawer stays", "1 -2;30 4", () -> Check.square(x));
+        SquareWorkshop y = Check.with("1 2 3;4 5 6;7 8 9");
+        y.keep(0);
+        Check.due("promise 27: the size 3", 12, () -> y.add(0));
+        Check.due("promise 27: all its cells", "2 4 6;8 10 12;14 16 18", () -> Check.square(y));
         x.begin(3);
         Check.argument("promise 27: another size", () -> x.add(0));
         x.begin(2);

@@ -92,6 +92,9 @@ public final class FillingsTest {
         refused("1 2 3 3;0 0 0 0;0 0 0 0;0 0 0 0");
         refused("1 2 3 -4;5 0 0 0;0 0 0 0;0 0 0 0");
         Check.due("promise 30: four cells", 0, () -> Check.with("1 2 3 4;0 0 0 0;0 0 0 0;0 0 0 0").fillings());
+        // What is left for the last cell of the row is 0, which is no number of a filling.
+        Check.due("promise 30: nothing left", 0, () -> Check.with("16 15 3 0;0 0 0 1;0 0 0 0;0 0 0 0").fillings());
+        Check.due("promise 30: nothing left", 0, () -> Check.with("6 9 0;0 0 0;0 0 0").fillings());
         Check.due("promise 30: the number 16", true,
                 () -> Check.with("16 2 3 13;0 0 0 0;0 0 0 0;0 0 0 0").fillings() > 0);
     }

@@ -35,6 +35,12 @@ public final class HexagonTest {
         Check.due("promise 34: a number that is free", 17, () -> x.hexSet(2, 19));
         Check.state("promise 34: another cell has it", () -> x.hexSet(1, 19));
         Check.due("promise 34: nothing is changed", 0, () -> x.hexAt(1));
+        SquareWorkshop y = new SquareWorkshop();
+        y.hexSet(0, 7);
+        Check.state("promise 34: the first cell has it", () -> y.hexSet(18, 7));
+        y.hexSet(0, 0);
+        y.hexSet(18, 7);
+        Check.state("promise 34: the last cell has it", () -> y.hexSet(0, 7));
         for (int each = 1; each < CELLS.length; each++) {
             int cell = CELLS[each];
             Check.index("promise 33: no such cell", () -> x.hexAt(cell));

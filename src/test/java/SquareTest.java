@@ -202,9 +202,27 @@ public final class SquareTest {
         Check.due("promise 15: UNLIKE in columns", false, () -> Check.with("1 2;1 3").is(SquareWorkshop.UNLIKE));
         Check.due("promise 15: UNLIKE in rows", false, () -> Check.with("1 1;2 3").is(SquareWorkshop.UNLIKE));
         Check.due("promise 15: UNLIKE lets diagonals be", true, () -> Check.with("1 2;3 1").is(SquareWorkshop.UNLIKE));
+        checkSquared();
         Check.due("promise 15: SQUARED of large numbers", true,
                 () -> Check.with("1000000 -1000000;-1000000 1000000").is(SquareWorkshop.HALF));
         Check.due("promise 15: a line of " + BIG.length(), true, () -> big().is(SquareWorkshop.SQUARED));
+    }
+
+    /** CONSTANT squares, in which the squares of the numbers agree in all lines but one sort. */
+    private static void checkSquared() {
+        String[] all = {
+            "-2 -3 2 3;-3 3 -2 2;3 -3 2 -2;2 3 -2 -3",
+            "-2 -3 3 2;-3 3 -3 3;2 -2 2 -2;3 2 -2 -3",
+            "1 -1 0 0 0;-1 0 1 0 0;0 1 0 -1 0;0 0 -1 0 1;0 0 0 1 -1",
+            "0 0 0 -1 1;0 0 1 0 -1;0 -1 0 1 0;1 0 -1 0 0;-1 1 0 0 0"
+        };
+        for (String each : all) {
+            SquareWorkshop x = Check.with(each);
+            Check.due("promise 15: CONSTANT " + each, true, () -> x.is(SquareWorkshop.CONSTANT));
+            Check.due("promise 15: not SQUARED " + each, false, () -> x.is(SquareWorkshop.SQUARED));
+        }
+        SquareWorkshop x = Check.with("-3 -3 3 3;-3 3 -3 3;3 -3 3 -3;3 3 -3 -3");
+        Check.due("promise 15: SQUARED", true, () -> x.is(SquareWorkshop.SQUARED));
     }
 
     private static void checkShares() {

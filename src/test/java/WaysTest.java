@@ -101,6 +101,13 @@ public final class WaysTest {
         Check.due("promise 17: the size 12", 12, () -> x.multiply(0));
         Check.state("promise 17: the size 24", () -> x.multiply(0));
         Check.due("promise 17: the size stays", 12, x::size);
+        x.begin(1);
+        x.keep(3);
+        x.begin(12);
+        Check.due("promise 17: the sizes 12 and 1", 12, () -> x.multiply(3));
+        x.begin(4);
+        x.keep(4);
+        Check.state("promise 17: the size 16", () -> x.multiply(4));
         Check.element("promise 17: an empty drawer", () -> x.multiply(5));
         Check.index("promise 17: the drawer 6", () -> x.multiply(6));
         Check.index("promise 17: the drawer -1", () -> x.multiply(-1));
