@@ -1380,7 +1380,7 @@ public final class SquareWorkshop {
 
         /** Puts all numbers that must follow from those put since a mark; false if there is none. */
         private boolean follow(int mark) {
-            for (int step = mark; step < trailLength; step++) {
+            for (int step = mark; step < trailLength && step < MOST; step++) {
                 for (int which = 0; which < GROUPS_OF_A_CELL; which++) {
                     int group = groupsOf[trail[step] * GROUPS_OF_A_CELL + which];
                     if (group != NONE && !followGroup(group)) {
