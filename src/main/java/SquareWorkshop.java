@@ -991,13 +991,13 @@ public final class SquareWorkshop {
                 case HALF:
                     return isHalf(square);
                 case CONSTANT:
-                    return isConstant(square);
+                    return isHalf(square) && diagonalsAgree(square);
                 case ALL:
-                    return isAll(square);
+                    return isHalf(square) && allDiagonalsAgree(square);
                 case LIKE:
                     return isLike(square);
                 case SQUARED:
-                    return isConstant(square) && hasConstantSquares(square);
+                    return isHalf(square) && diagonalsAgree(square) && hasConstantSquares(square);
                 case TIMES:
                     return hasOneProduct(square);
                 case UNLIKE:
@@ -1073,14 +1073,14 @@ public final class SquareWorkshop {
             return linesAgree(square, ROW, sum) && linesAgree(square, COLUMN, sum);
         }
 
-        private static boolean isConstant(Square square) {
+        private static boolean diagonalsAgree(Square square) {
             long sum = square.lineSum(ROW, 0);
-            return square.lineSum(DOWN, 0) == sum && square.lineSum(UP, square.n - 1) == sum && isHalf(square);
+            return square.lineSum(DOWN, 0) == sum && square.lineSum(UP, square.n - 1) == sum;
         }
 
-        private static boolean isAll(Square square) {
+        private static boolean allDiagonalsAgree(Square square) {
             long sum = square.lineSum(ROW, 0);
-            return isHalf(square) && linesAgree(square, DOWN, sum) && linesAgree(square, UP, sum);
+            return linesAgree(square, DOWN, sum) && linesAgree(square, UP, sum);
         }
 
         private static boolean isLike(Square square) {
@@ -1774,19 +1774,25 @@ public final class SquareWorkshop {
 
         int failuresOfForms(Square square, Measures measures) {
             int least = square.leastForm();
+            int properties = propertiesOf(square, measures);
             int failures = 0;
             for (int form = 1; form < Square.FORMS; form++) {
                 made.becomeForm(square, form);
                 if (Square.compare(made, made.leastForm(), square, least) != 0) {
                     failures++;
                 }
-                for (int what = HALF; what <= LIKE; what++) {
-                    if (measures.has(made, what) != measures.has(square, what)) {
-                        failures++;
-                    }
-                }
+                failures += Integer.bitCount(properties ^ propertiesOf(made, measures));
             }
             return failures;
+        }
+
+        /** Those of the properties HALF to LIKE that a square has, each as the bit with its number. */
+        private static int propertiesOf(Square square, Measures measures) {
+            int bits = 0;
+            for (int what = HALF; what <= LIKE; what++) {
+                bits |= measures.has(square, what) ? 1 << what : 0;
+            }
+            return bits;
         }
 
         int failuresOfWays(Measures measures) {
