@@ -19,6 +19,7 @@ public final class TextBoundsTest {
         checkThirteenthRow();
         checkRowsOfOtherLengths();
         checkOneErrorAheadOfOthers();
+        checkErrorsThatEnd();
         checkReading();
         checkThatNothingChanges();
         Check.finish();
@@ -358,6 +359,29 @@ public final class TextBoundsTest {
         error("1000001 " + TWELVE, 2, 0);
         error(TWELVE + " 1" + ";1".repeat(12), 3, 24);
         error(TWELVE_ROWS + ";" + TWELVE + " 1", 3, 23);
+    }
+
+    /** What is typed behind a text, or in place of it, decides anew whether it has an error, and where. */
+    private static void checkErrorsThatEnd() {
+        String[] begun = {"", " ", "1 2;3", "1 2;3 ", "1 2;", "1 2", "-", "1 2;3 -"};
+        String[] ended = {"7", "7", " 4", "4", "3 4", ";3 4", "7", "4"};
+        for (int each = 0; each < begun.length; each++) {
+            String name = begun[each] + ended[each];
+            SquareWorkshop x = Check.typed(new SquareWorkshop(), begun[each]);
+            Check.due("promise 4: an error of what " + name + " begins with", true, () -> x.errorKind() > 0);
+            Check.due("promise 5: an error of what " + name + " begins with", true, () -> x.errorPlace() >= 0);
+            Check.typed(x, ended[each]);
+            Check.due("promise 5: no error any more, " + name, SquareWorkshop.NONE, x::errorPlace);
+            Check.due("promise 4: no error any more, " + name, 0, x::errorKind);
+            Check.typed(x, " x");
+            Check.due("promise 5: an error again, " + name, name.length() + 1, x::errorPlace);
+            Check.due("promise 4: an error again, " + name, 1, x::errorKind);
+            x.clearText();
+            Check.due("promise 5: the error of an empty text, " + name, 0, x::errorPlace);
+            Check.typed(x, "1");
+            Check.due("promise 5: no error of the next text, " + name, SquareWorkshop.NONE, x::errorPlace);
+            Check.due("promise 4: no error of the next text, " + name, 0, x::errorKind);
+        }
     }
 
     private static void checkReading() {
